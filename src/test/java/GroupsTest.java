@@ -7,6 +7,7 @@ public final class GroupsTest {
     public static void main(String[] args) {
         promise10Groups();
         promise10WhatIsAlike();
+        promise10LengthsBeforeItems();
         promise11Group();
         promise12Members();
         promise13Largest();
@@ -14,6 +15,7 @@ public final class GroupsTest {
         promise13LargestAfterExpire();
         promise14Column();
         promise14ColumnOfOneLine();
+        promise14ColumnFromALaterLine();
         promise14ColumnRefused();
         promise14ColumnOfAFullArchive();
         Check.finish();
@@ -63,6 +65,18 @@ public final class GroupsTest {
             Check.due("alike: group(" + line + ")", a.group(line), firsts[line]);
         }
         Check.due("alike: groups()", a.groups(), 7);
+    }
+
+    /** What a dropped, longer line left behind must not make shorter ones differ. */
+    private static void promise10LengthsBeforeItems() {
+        LineArchive a = new LineArchive();
+        Check.write(a, 0, 1, 2, 3);
+        Check.write(a, 0, 1, 2, 4);
+        a.expire(1);
+        Check.write(a, 1, 1, 2);
+        Check.write(a, 1, 1, 2);
+        Check.due("after longer lines: groups()", a.groups(), 1);
+        Check.due("after longer lines: group(1)", a.group(1), 0);
     }
 
     private static void promise11Group() {
@@ -168,6 +182,17 @@ public final class GroupsTest {
         Check.write(a, 0, 1000, 1, 2, 3, 4, 5, 6, 1999);
         columnIs(a, 0, 0, 0, 0, 0, 1);
         columnIs(a, 0, 7, 999, 999, 999, 1);
+    }
+
+    private static void promise14ColumnFromALaterLine() {
+        LineArchive a = new LineArchive();
+        Check.write(a, 0, 1002, 1900);
+        Check.write(a, 0, 1005, 1700);
+        Check.write(a, 0, 1003, 1800);
+        for (int line = 0; line < 3; line++) {
+            columnIs(a, line, 0, 2, 5, 10, 3);
+            columnIs(a, line, 1, 700, 900, 2400, 3);
+        }
     }
 
     private static void promise14ColumnRefused() {

@@ -17,6 +17,7 @@ public final class PatternTest {
         promise18AboveFits();
         promise18RowsFit();
         promise18LongestPatterns();
+        promise18FullArchiveOfFullLines();
         promise18FittingInTimes();
         promise19Next();
         promise20FittingGroups();
@@ -166,6 +167,32 @@ public final class PatternTest {
         fits(eight, true, 1, 1, 1, 1, 1, 1, 1, ROW);
         fits(row(1, 1, 1, 1, 1, 1, 1), true, ROW, 1, 1, 1, 1, 1, 1, 1);
         fits(row(1, 1, 1, 1, 1, 1), false, ROW, 1, 1, 1, 1, 1, 1, 1);
+    }
+
+    private static void promise18FullArchiveOfFullLines() {
+        LineArchive a = new LineArchive();
+        Check.write(a, 0, 1001, 1002, 1003, 1004, 1005, 1006, 1007, 1008);
+        for (int line = 1; line < 60; line++) {
+            a.recall(0);
+            Check.due("write of full line " + line, a.write(line), line);
+        }
+        int[][] fitting = {
+            {ROW}, {ANY, ANY, ANY, ANY, ANY, ANY, ANY, ANY}, {ROW, 3007}, {1001, ROW, NUMBER, 1008}, {ROW, 1008, ROW}
+        };
+        for (int[] parts : fitting) {
+            Check.pattern(a, parts);
+            Check.due("full archive: fitting(0, 1000)", a.fitting(0, 1000), 60);
+            Check.due("full archive: next(58)", a.next(58), 59);
+            Check.due("full archive: next(59)", a.next(59), NONE);
+            Check.due("full archive: fittingGroups()", a.fittingGroups(), 1);
+        }
+        Check.pattern(a, ROW, 1008, ANY);
+        Check.due("full archive, none fits: fitting(0, 1000)", a.fitting(0, 1000), 0);
+        Check.due("full archive: having(1008)", a.having(1008), 60);
+        Check.due("full archive: members(59)", a.members(59), 60);
+        Check.due("full archive: column(59, 7, 2)", a.column(59, 7, 2), 480);
+        Check.due("full archive: burst(60)", a.burst(60), 60);
+        Check.due("full archive: expire(60)", a.expire(60), 60);
     }
 
     /** Lines at times 0, 4, 4, 9, 1000; the pattern 5 ROW fits all but line 1. */
