@@ -2,15 +2,32 @@
 final class Check {
     private static int wrong = 0;
     private static int checked = 0;
+    private static String sentence = "";
+    private static int checkedBeforeSentence = 0;
 
     private Check() {
+    }
+
+    /** What is looked at from here on is due to these words of the document, until the next ones. */
+    static void sentence(String where, String words) {
+        endSentence();
+        sentence = where + ", \"" + words + "\": ";
+        checkedBeforeSentence = checked;
+    }
+
+    // Else a sentence could be named, and have no test.
+    private static void endSentence() {
+        if (!sentence.isEmpty() && checked == checkedBeforeSentence) {
+            wrong++;
+            System.out.println(sentence + "nothing was looked at");
+        }
     }
 
     static void due(String call, long got, long want) {
         checked++;
         if (got != want) {
             wrong++;
-            System.out.println(call + " answered " + got + ", due is " + want);
+            System.out.println(sentence + call + " answered " + got + ", due is " + want);
         }
     }
 
@@ -18,7 +35,7 @@ final class Check {
         checked++;
         if (!isSo) {
             wrong++;
-            System.out.println("does not hold: " + what);
+            System.out.println(sentence + "does not hold: " + what);
         }
     }
 
@@ -47,11 +64,22 @@ final class Check {
         due(when + ": at(" + line + ", " + items.length + ")", archive.at(line, items.length), LineArchive.NONE);
     }
 
+    /** Lines 0 .. 59, each of the one item 1000 + its number, at the time of its number. */
+    static LineArchive sixtyLines() {
+        LineArchive archive = new LineArchive();
+        for (int line = 0; line < 60; line++) {
+            archive.item(1000 + line);
+            archive.write(line);
+        }
+        return archive;
+    }
+
     static boolean allRight() {
         return wrong == 0;
     }
 
     static void finish() {
+        endSentence();
         System.out.println(checked + " answers looked at, " + wrong + " wrong");
         if (wrong != 0 || checked == 0) {
             System.exit(1);

@@ -8,14 +8,16 @@ import java.nio.file.Path;
 import java.util.Arrays;
 import java.util.HashSet;
 import java.util.List;
+import java.util.Map;
 import java.util.Set;
+import java.util.TreeMap;
 import java.util.TreeSet;
 import java.util.regex.Matcher;
 import java.util.regex.Pattern;
 
 /**
- * The public face of the document, and the rules of LANGUAGE.md that can be seen in the class's members
- * and words. The first argument is the path of the class's source.
+ * The public face of the document, and the rules of LANGUAGE.md that can be seen in the class's members,
+ * words and calls. The first argument is the path of the class's source.
  */
 public final class LanguageTest {
     private static final String FACE = "item(1) write(1) recall(1) expire(1) lines(0) time(1) length(1) at(2) "
@@ -34,6 +36,7 @@ public final class LanguageTest {
         words(code(args[0]));
         arrays(code(args[0]));
         arguments(code(args[0]));
+        callDepth(code(args[0]));
         Check.finish();
     }
 
@@ -145,6 +148,46 @@ public final class LanguageTest {
             String inside = code.substring(call.end(), end);
             Check.holds("no call inside the arguments of " + call.group(1) + "(" + inside,
                 !Pattern.compile("\\w\\(").matcher(inside).find());
+        }
+    }
+
+    /** The lines of each method, by its name. */
+    private static Map<String, String> methods(String code) {
+        Map<String, String> bodies = new TreeMap<>();
+        Matcher method = Pattern.compile("(?m)^    (?:public|private)[\\w ]* (\\w+)\\([^)]*\\) \\{$([\\s\\S]*?)^    }$")
+            .matcher(code);
+        while (method.find()) {
+            bodies.put(method.group(1), method.group(2));
+        }
+        return bodies;
+    }
+
+    /** No recursion, calls at most six deep, and methods of at most sixty lines. */
+    private static void callDepth(String code) {
+        Map<String, String> bodies = methods(code);
+        Set<String> declared = new TreeSet<>();
+        for (Method method : LineArchive.class.getDeclaredMethods()) {
+            declared.add(method.getName());
+        }
+        declared.add("LineArchive");
+        Check.holds("every method is found in the text: " + declared + ", found " + bodies.keySet(),
+            declared.equals(bodies.keySet()));
+        // Each round leaves the methods that call one of those left; who is left after six goes deeper.
+        Set<String> deep = new TreeSet<>(bodies.keySet());
+        for (int round = 0; round < 6; round++) {
+            Set<String> callers = new TreeSet<>();
+            for (String name : deep) {
+                for (String called : deep) {
+                    if (Pattern.compile("\\b" + called + "\\(").matcher(bodies.get(name)).find()) {
+                        callers.add(name);
+                    }
+                }
+            }
+            deep = callers;
+        }
+        Check.holds("no recursion and no call above six deep, found " + deep, deep.isEmpty());
+        for (Map.Entry<String, String> method : bodies.entrySet()) {
+            Check.holds(method.getKey() + " is short", method.getValue().lines().count() <= 60);
         }
     }
 }
