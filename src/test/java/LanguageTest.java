@@ -17,7 +17,7 @@ import java.util.regex.Pattern;
 
 /**
  * The public face of the document, and the rules of LANGUAGE.md that can be seen in the class's members,
- * words and calls. The first argument is the path of the class's source.
+ * words, loops and calls. The first argument is the path of the class's source.
  */
 public final class LanguageTest {
     private static final String FACE = "item(1) write(1) recall(1) expire(1) lines(0) time(1) length(1) at(2) "
@@ -29,12 +29,16 @@ public final class LanguageTest {
         "Math", "Integer", "System", "Arrays", "Object", "interface", "enum", "record", "protected", "var",
         "native", "transient", "volatile", "toString", "equals", "hashCode", "getClass", "clone");
 
+    private static final Pattern COUNTED_LOOP = Pattern.compile(
+        "(?m)^( +)for \\(int (\\w+) = \\w+; \\2 < [\\w\\[\\]]+; \\2\\+\\+\\) \\{$");
+
     public static void main(String[] args) throws IOException {
         publicFace();
         members();
         fields();
         words(code(args[0]));
         arrays(code(args[0]));
+        loops(code(args[0]));
         arguments(code(args[0]));
         callDepth(code(args[0]));
         Check.finish();
@@ -78,7 +82,10 @@ public final class LanguageTest {
             Check.holds(method + " is public or private", isPrivate || Modifier.isPublic(method.getModifiers()));
             Check.holds(method + " has a name of its own", !isPrivate || !publicNames.contains(method.getName()));
             Check.holds(method + " has at most seven parameters", method.getParameterCount() <= 7);
-            Check.holds(method + " answers no array", !method.getReturnType().isArray());
+            Check.holds(method + " answers a number, a boolean or nothing", method.getReturnType().isPrimitive());
+            for (Class<?> parameter : method.getParameterTypes()) {
+                Check.holds(method + " takes numbers and rows of them", isOfNumbers(parameter));
+            }
         }
     }
 
@@ -92,8 +99,9 @@ public final class LanguageTest {
                     Modifier.isFinal(modifiers) && (field.getType() == int.class || field.getType() == long.class));
             } else {
                 count++;
-                Class<?> type = field.getType().isArray() ? field.getType().getComponentType() : field.getType();
-                Check.holds(field + " has a type of numbers", type.isPrimitive());
+                Check.holds(field + " has a type of numbers", isOfNumbers(field.getType()));
+                Check.holds(field + " is final if it is an array",
+                    !field.getType().isArray() || Modifier.isFinal(modifiers));
             }
             if (Modifier.isPublic(modifiers)) {
                 publicNames.add(field.getName());
@@ -104,6 +112,11 @@ public final class LanguageTest {
         Check.holds("the public fields are BAD, FULL and NONE, found " + publicNames,
             publicNames.equals(Set.of("BAD", "FULL", "NONE")));
         Check.holds("at most forty fields, found " + count, count <= 40);
+    }
+
+    private static boolean isOfNumbers(Class<?> type) {
+        Class<?> cell = type.isArray() ? type.getComponentType() : type;
+        return cell.isPrimitive() && cell != float.class && cell != double.class;
     }
 
     private static String code(String path) throws IOException {
@@ -128,6 +141,20 @@ public final class LanguageTest {
         while (made.find()) {
             Check.holds("an array is made in a field's initialiser: " + made.group(),
                 made.group().matches("    private final \\w+\\[\\] \\w+ = new \\w+\\[[A-Z_0-9]+\\];"));
+        }
+    }
+
+    /** Every loop counts up against a bound, and nothing in it sets its counter. */
+    private static void loops(String code) {
+        Check.holds("no loop but for", !Pattern.compile("\\b(while|do)\\b").matcher(code).find());
+        Check.due("loops that count against a bound", COUNTED_LOOP.matcher(code).results().count(),
+            Pattern.compile("\\bfor\\b").matcher(code).results().count());
+        Matcher loop = COUNTED_LOOP.matcher(code);
+        while (loop.find()) {
+            String body = code.substring(loop.end(), code.indexOf("\n" + loop.group(1) + "}", loop.end()));
+            String counterSet = "\\b" + loop.group(2) + " *(\\+\\+|--|[-+*/%&|^]?=[^=])";
+            Check.holds("a loop leaves its counter alone: " + loop.group().strip(),
+                !Pattern.compile(counterSet).matcher(body).find());
         }
     }
 
